@@ -67,7 +67,8 @@ public final class LatticeGrader {
     }
 
     public int tells() {
-        int answer = tellAll();
+        int fault = letters.firstFault();
+        int answer = fault < 0 ? takeAll() : -1000 - fault;
         letters.forget();
         return answer;
     }
@@ -216,7 +217,7 @@ public final class LatticeGrader {
         if (refusal != 0) {
             return refuse(refusal);
         }
-        return gradeIn(now, loss, paper);
+        return byRules.work(now, loss, 0).gradeIn(now, paper);
     }
 
     public long change(int loss, int part) {
@@ -514,11 +515,7 @@ public final class LatticeGrader {
 
     // ---- what the calls work out
 
-    private int tellAll() {
-        int fault = letters.firstFault();
-        if (fault >= 0) {
-            return -1000 - fault;
-        }
+    private int takeAll() {
         spare.copyFrom(now);
         letters.readFromFront();
         int statements = 0;
@@ -534,11 +531,6 @@ public final class LatticeGrader {
         return statements;
     }
 
-    private int gradeIn(Sheet sheet, int loss, int paper) {
-        Values values = byRules.work(sheet, loss, 0);
-        return sheet.gradeOf(values.partOf(paper, 0), values.partOf(paper, 1));
-    }
-
     /** VALUE never falls as RAW grows, so the RAWS that are too low are counted by halving. */
     private int leastRaw(int loss, int paper, int g) {
         spare.copyFrom(now);
@@ -547,7 +539,7 @@ public final class LatticeGrader {
             int tried = tooLow + step - 1;
             if (tried <= MOST_RAW) {
                 spare.setRaw(paper, tried);
-                if (gradeIn(spare, loss, paper) < g) {
+                if (byRules.work(spare, loss, 0).gradeIn(spare, paper) < g) {
                     tooLow += step;
                 }
             }
@@ -597,7 +589,7 @@ public final class LatticeGrader {
             said.append(below);
         }
         said.append(' ');
-        said.append((char) ('A' + now.gradeOf(values.partOf(paper, 0), below)));
+        said.append((char) ('A' + values.gradeIn(now, paper)));
         sayOthers(values.poolOf(now, paper) & ~(1 << paper));
     }
 
@@ -751,8 +743,8 @@ public final class LatticeGrader {
 
         /** The greatest common divisor; Euclid needs fewer than 100 steps for longs. */
         static long commonOf(long one, long other) {
-            long a = Math.abs(one);
-            long b = Math.abs(other);
+            long a = one < 0 ? -one : one;
+            long b = other < 0 ? -other : other;
             for (int step = 0; step < 200 && b != 0; step++) {
                 long rest = a % b;
                 a = b;
@@ -1165,6 +1157,52 @@ public final class LatticeGrader {
             return bits;
         }
 
+        /** MARK times WEIGHT of some, added up. */
+        int sumOf(int bits) {
+            int sum = 0;
+            for (int p = 0; p < papers; p++) {
+                sum += hasBit(bits, p) ? marks.get(p) * weights.get(p) : 0;
+            }
+            return sum;
+        }
+
+        int weightOf(int bits) {
+            int sum = 0;
+            for (int p = 0; p < papers; p++) {
+                sum += hasBit(bits, p) ? weights.get(p) : 0;
+            }
+            return sum;
+        }
+
+        int middleOf(int bits) {
+            int all = weightOf(bits);
+            int middle = Integer.MAX_VALUE;
+            for (int p = 0; p < papers; p++) {
+                int mark = marks.get(p);
+                if (hasBit(bits, p) && mark < middle && 2 * weightOf(bits & papersUpTo(mark)) >= all) {
+                    middle = mark;
+                }
+            }
+            return middle;
+        }
+
+        int papersUpTo(int mark) {
+            int bits = 0;
+            for (int p = 0; p < papers; p++) {
+                bits |= marks.get(p) <= mark ? 1 << p : 0;
+            }
+            return bits;
+        }
+
+        boolean breakAny(Sheet sheet, int without) {
+            for (int r = 0; r < sheet.ruleCount(); r++) {
+                if (!hasBit(without, r) && marks.get(sheet.lowerOf(r)) > marks.get(sheet.upperOf(r))) {
+                    return true;
+                }
+            }
+            return false;
+        }
+
         void lay(int bits, long above, long below) {
             reduced.make(above, below);
             for (int p = 0; p < papers; p++) {
@@ -1177,6 +1215,10 @@ public final class LatticeGrader {
 
         long partOf(int paper, int part) {
             return part == 0 ? aboves.get(paper) : belows.get(paper);
+        }
+
+        int gradeIn(Sheet sheet, int paper) {
+            return sheet.gradeOf(aboves.get(paper), belows.get(paper));
         }
 
         boolean isMark(int paper) {
@@ -1320,31 +1362,33 @@ public final class LatticeGrader {
         }
 
         private void standBehind(int bits) {
-            setBlock(blocksNow, bits);
+            blocks.set(blocksNow, bits);
             blocksNow++;
         }
 
-        private void setBlock(int i, int bits) {
-            blocks.set(i, bits);
-            tops.set(i, numberTop(bits));
-            bottoms.set(i, numberBottom(bits));
+        private void measure(int i) {
+            tops.set(i, numberTop(blocks.get(i)));
+            bottoms.set(i, numberBottom(blocks.get(i)));
         }
 
         private void mergeAll() {
-            int i = firstToMerge();
-            for (int step = 0; step < MOST_PAPERS && i >= 0; step++) {
-                mergeWithNext(i);
-                i = firstToMerge();
+            for (int i = 0; i < blocksNow; i++) {
+                measure(i);
+            }
+            int first = firstToMerge();
+            for (int step = 0; step < MOST_PAPERS && first >= 0; step++) {
+                mergeWithNext(first);
+                measure(first);
+                first = firstToMerge();
             }
         }
 
         private void mergeWithNext(int i) {
-            int bits = blocks.get(i) | blocks.get(i + 1);
+            blocks.add(i, blocks.get(i + 1));
             blocks.removeAt(i + 1);
             tops.removeAt(i + 1);
             bottoms.removeAt(i + 1);
             blocksNow--;
-            setBlock(i, bits);
             mergesDone++;
         }
 
@@ -1383,43 +1427,12 @@ public final class LatticeGrader {
 
         /** NUMBER above the line. */
         private int numberTop(int bits) {
-            if (loss == ABSOLUTE) {
-                return middleOf(bits);
-            }
-            int sum = 0;
-            for (int p = 0; p < values.paperCount(); p++) {
-                if (hasBit(bits, p)) {
-                    sum += values.markAt(p) * values.weightAt(p);
-                }
-            }
-            return sum;
+            return loss == ABSOLUTE ? values.middleOf(bits) : values.sumOf(bits);
         }
 
         /** NUMBER below the line. */
         private int numberBottom(int bits) {
-            return loss == ABSOLUTE ? 1 : weightUpTo(bits, Integer.MAX_VALUE);
-        }
-
-        private int middleOf(int bits) {
-            int all = weightUpTo(bits, Integer.MAX_VALUE);
-            int middle = Integer.MAX_VALUE;
-            for (int p = 0; p < values.paperCount(); p++) {
-                int mark = values.markAt(p);
-                if (hasBit(bits, p) && mark < middle && 2 * weightUpTo(bits, mark) >= all) {
-                    middle = mark;
-                }
-            }
-            return middle;
-        }
-
-        private int weightUpTo(int bits, int mark) {
-            int sum = 0;
-            for (int p = 0; p < values.paperCount(); p++) {
-                if (hasBit(bits, p) && values.markAt(p) <= mark) {
-                    sum += values.weightAt(p);
-                }
-            }
-            return sum;
+            return loss == ABSOLUTE ? 1 : values.weightOf(bits);
         }
     }
 
@@ -1433,8 +1446,8 @@ public final class LatticeGrader {
 
         Values work(Sheet sheet, int loss, int without) {
             values.begin(sheet);
-            // If no RULE is broken, by each LOSS nothing is to be changed.
-            if ((sheet.brokenRules() & ~without) == 0) {
+            // If the MARKS break no RULE, by each LOSS nothing is to be changed.
+            if (!values.breakAny(sheet, without)) {
                 return values;
             }
             order.work(sheet, without);
@@ -1509,7 +1522,7 @@ public final class LatticeGrader {
             int mark = leastMarkAbove(-1);
             for (int round = 0; round < MOST_PAPERS && rest != 0; round++) {
                 int next = leastMarkAbove(mark);
-                int bits = next > mark ? cheapestBelow(next, rest) : rest;
+                int bits = next > mark ? cheapest(values.papersUpTo(mark), rest) : rest;
                 values.lay(bits, mark, 1);
                 rest &= ~bits;
                 mark = next;
@@ -1528,19 +1541,8 @@ public final class LatticeGrader {
             return least;
         }
 
-        private int papersBelow(int mark) {
-            int bits = 0;
-            for (int p = 0; p < values.paperCount(); p++) {
-                if (values.markAt(p) < mark) {
-                    bits |= 1 << p;
-                }
-            }
-            return bits;
-        }
-
         /** Of several all together: that is as cheap, and leaves the least VALUES. */
-        private int cheapestBelow(int mark, int rest) {
-            int lesser = papersBelow(mark);
+        private int cheapest(int lesser, int rest) {
             int best = 0;
             int least = 0;
             for (int bits = rest; bits > 0; bits = (bits - 1) & rest) {
@@ -1622,7 +1624,7 @@ public final class LatticeGrader {
 
         /** Stands behind it then; if it is none, at the letter that does not fit. */
         boolean readStatement() {
-            return readWord() && readNumbers() && readSign(';');
+            return readWord() && readNumbers() && readEnd();
         }
 
         private boolean readWord() {
@@ -1650,7 +1652,11 @@ public final class LatticeGrader {
 
         private boolean readNumbers() {
             for (int i = 0; i < numbersOf(word); i++) {
-                if (!readSign(' ') || !isDigit(signAt(at))) {
+                if (signAt(at) != ' ') {
+                    return false;
+                }
+                at++;
+                if (!isDigit(signAt(at))) {
                     return false;
                 }
                 int number = signAt(at) - '0';
@@ -1664,8 +1670,8 @@ public final class LatticeGrader {
             return true;
         }
 
-        private boolean readSign(char sign) {
-            if (signAt(at) != sign) {
+        private boolean readEnd() {
+            if (signAt(at) != ';') {
                 return false;
             }
             at++;

@@ -525,7 +525,8 @@ final class Model {
 
     private static final String N = " [0-9][0-9]?";
     private static final String[] FORMS = {
-        "paper" + N, "kind" + N + N + N, "heavy" + N + N, "place" + N + N, "rule" + N + N, "free" + N, "limit" + N, "ties" + N
+        "paper" + N, "kind" + N + N + N, "heavy" + N + N, "place" + N + N, "rule" + N + N, "free" + N, "limit" + N,
+        "ties" + N
     };
     private static final Pattern STATEMENT = Pattern.compile("(" + String.join("|", FORMS) + ");");
     private static final Pattern ALL = Pattern.compile("((" + String.join("|", FORMS) + ");)+");
