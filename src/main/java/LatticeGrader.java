@@ -1047,6 +1047,7 @@ public final class LatticeGrader {
     private static final class Order {
         private final Ints overs = new Ints(MOST_PAPERS);
         private final Ints unders = new Ints(MOST_PAPERS);
+        private final Ints marks = new Ints(MOST_PAPERS);
         private final Ints wrongs = new Ints(MOST_PAPERS);
         private int papers;
 
@@ -1054,15 +1055,20 @@ public final class LatticeGrader {
             papers = sheet.paperCount();
             sheet.trace(overs, without);
             for (int p = 0; p < papers; p++) {
+                marks.set(p, sheet.markOf(p));
                 unders.set(p, 0);
                 wrongs.set(p, 0);
             }
             for (int p = 0; p < papers; p++) {
-                for (int q = 0; q < papers; q++) {
-                    if (hasBit(overs.get(p), q)) {
-                        unders.add(q, 1 << p);
-                        wrongs.add(p, sheet.markOf(p) > sheet.markOf(q) ? 1 << q : 0);
-                    }
+                meetOvers(p, overs.get(p));
+            }
+        }
+
+        private void meetOvers(int paper, int itsOvers) {
+            for (int q = 0; q < papers; q++) {
+                if (hasBit(itsOvers, q)) {
+                    unders.add(q, 1 << paper);
+                    wrongs.add(paper, marks.get(paper) > marks.get(q) ? 1 << q : 0);
                 }
             }
         }

@@ -369,7 +369,9 @@ public final class PromisesTest {
         due(x.free(10), 10);
         due(x.rule(0, 1), 10);
         due(x.rule(2, 3), 11);
-        due(new LatticeGrader().free(0), -1);
+        LatticeGrader y = new LatticeGrader();
+        due(y.free(0), -1);
+        refused(y, 1, 0, 0, 0, 0);
     }
 
     private static void limitsAndTies() {
@@ -471,6 +473,9 @@ public final class PromisesTest {
         y.raw(0, 20);
         due(y.pairs(0), 0);
         due(y.pairs(1), 0);
+        LatticeGrader back = with(20, 80);
+        back.rule(1, 0);
+        due(back.pairs(0), 1);
         // One fan: the middle one alone is fewer than its three.
         LatticeGrader z = with(60, 70, 80, 5);
         z.rule(0, 3);
@@ -519,6 +524,13 @@ public final class PromisesTest {
         dueFraction(x.lineChange(0, 0), x.lineChange(0, 1), 200, 3);
         dueFraction(x.lineChange(1, 0), x.lineChange(1, 1), 10, 1);
         begin(19);
+        // A block's WEIGHTS go with it: 61 by 3 is above 180 by 9.
+        LatticeGrader v = with(10, 30, 1, 20);
+        v.heavy(1, 2);
+        v.heavy(3, 9);
+        due(v.block(0, 0), 1);
+        due(v.block(0, 1), 14);
+        dueFraction(v.line(0, 3, 0), v.line(0, 3, 1), 241, 12);
         // FREE: by PLACES, of alike ones by MARKS, then by numbers.
         LatticeGrader w = with(70, 30, 70, 10);
         w.place(0, 4);
@@ -560,6 +572,17 @@ public final class PromisesTest {
         dueFraction(x.lineChange(1, 0), x.lineChange(1, 1), 0, 1);
         x.ties(1);
         dueFraction(x.lineChange(1, 0), x.lineChange(1, 1), 20, 1);
+        begin(21);
+        // PLACE 9 as any other.
+        LatticeGrader nine = with(50, 30);
+        nine.place(0, 9);
+        nine.place(1, 9);
+        dueFraction(nine.lineChange(0, 0), nine.lineChange(0, 1), 0, 1);
+        nine.ties(1);
+        dueFraction(nine.lineChange(0, 0), nine.lineChange(0, 1), 200, 1);
+        begin(19);
+        due(nine.block(0, -1), 1);
+        due(nine.block(0, 0), 3);
         begin(18);
         // By MEANS a VALUE may be below 0.
         LatticeGrader y = with(0, 40, 40, 0);
@@ -705,6 +728,20 @@ public final class PromisesTest {
         due(x.binds(0), 1);
         due(x.binds(2), 1);
         due(x.pool(0, 2), 4);
+        // 25 by 2 is not 25.
+        LatticeGrader half = with(20, 5, 25);
+        half.rule(0, 1);
+        half.rule(1, 2);
+        due(half.value(0, 1, 0), 25);
+        due(half.value(0, 2, 0), 25);
+        due(half.binds(0), 1);
+        due(half.pool(0, 1), 3);
+        // From 0 by RULES told from the far end on, up and down.
+        LatticeGrader far = with(50, 50, 50, 50);
+        far.rule(3, 2);
+        far.rule(1, 2);
+        far.rule(1, 0);
+        due(far.pool(0, 0), 15);
         // Like MARKS bind, too.
         LatticeGrader y = with(30, 30);
         y.rule(0, 1);
@@ -746,6 +783,12 @@ public final class PromisesTest {
         // Without the first, 81 stays and 50, 20 are 35: 450; with it 151 by 3 each: 5583 by 3.
         dueFraction(y.worth(0, 0, 0), y.worth(0, 0, 1), 4232, 3);
         begin(28);
+        // By WORST halves: 61 by 2, without the second 30.
+        LatticeGrader halves = with(80, 20, 81, 20);
+        halves.rule(0, 1);
+        halves.rule(2, 3);
+        due(halves.dearest(2), 1);
+        dueFraction(halves.worth(2, 1, 0), halves.worth(2, 1, 1), 1, 2);
         due(x.dearest(0), 1);
         due(x.dearest(1), 1);
         due(x.dearest(2), 1);
@@ -844,6 +887,10 @@ public final class PromisesTest {
         x.heavy(1, 2);
         dueText(said(x, 0), "0:93-146/3 B with 1");
         dueText(said(x, 1), "1:20+73/3 B with 0");
+        LatticeGrader near = with(21, 20);
+        near.rule(0, 1);
+        dueText(said(near, 0), "0:21-1/2 A with 1");
+        dueText(said(near, 1), "1:20+1/2 A with 0");
         x.limit(60);
         x.limit(70);
         x.limit(80);
@@ -955,6 +1002,17 @@ public final class PromisesTest {
         due(x.lots(20, 7, 1), like);
         due(x.of(0, 0), 1);
         due(x.of(1, 0), 99);
+        // A RULE from the last to the first.
+        LatticeGrader three = with(0, 0, 0);
+        three.rule(2, 0);
+        int drawn = 0;
+        seed = 99;
+        for (int n = 0; n < 20; n++) {
+            int first = next(seed);
+            seed = next(next(first));
+            drawn += draw(seed) >= draw(first) ? 2 : 0;
+        }
+        due(three.lots(20, 99, 1), drawn);
         x.free(0);
         due(x.lots(20, 7, 0), 0);
         due(x.lots(20, 7, 1), 0);
@@ -1152,6 +1210,17 @@ public final class PromisesTest {
         x.raw(0, 3);
         due(x.on(), 2);
         due(x.of(0, 0), 2);
+        // A PAPER that comes where another one was is PLAIN as any new one.
+        x.paper(9);
+        x.kind(2, 4, 8);
+        x.heavy(2, 8);
+        x.place(2, 8);
+        due(x.on(), 2);
+        due(x.paper(10), 2);
+        int[] anew = {10, 0, 0, 1, 2, 10, 1, 0};
+        for (int what = 0; what < 8; what++) {
+            due(x.of(2, what), anew[what]);
+        }
     }
 
     private static void counts() {
