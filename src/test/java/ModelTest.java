@@ -5,6 +5,8 @@ import java.util.Random;
 /** Random runs of calls, LatticeGrader beside the Model; the same runs each time. */
 public final class ModelTest {
     private static final int LAST_CALLS = 40;
+    /** No object is used for more than 512 calls, and one step makes fewer than 40. */
+    private static final int MOST_CALLS = 512 - 40;
     private static final String[] WORDS = {"paper", "kind", "heavy", "place", "rule", "free", "limit", "ties"};
     private static final int[] NUMBERS = {1, 3, 2, 2, 2, 1, 1, 1};
 
@@ -13,6 +15,7 @@ public final class ModelTest {
     private Model model = new Model();
     private final Deque<String> last = new ArrayDeque<>();
     private boolean right = true;
+    private int calls;
     /** What is told but has not come yet. */
     private String text = "";
 
@@ -48,7 +51,7 @@ public final class ModelTest {
             int v = (6 - l) * 15 + random.nextInt(14);
             check("limit(" + v + ")", real.limit(v), model.limit(v));
         }
-        for (int call = 0; call < 450 && right; call++) {
+        while (calls < MOST_CALLS && right) {
             step();
         }
         if (!right) {
@@ -58,6 +61,7 @@ public final class ModelTest {
     }
 
     private void check(String call, long got, long due) {
+        calls++;
         last.add(call + " " + due);
         if (last.size() > LAST_CALLS) {
             last.remove();

@@ -218,6 +218,8 @@ public final class PromisesTest {
         due(x.count(2), 0);
         due(tells(x, "ties 2;paper 9;ties 9;"), -2015);
         due(x.count(3), 0);
+        refused(x, 0, 0, 0, 0, 0);
+        x = new LatticeGrader();
         due(tells(x, "paper 1;paper 2;paper 3;paper 4;paper 5;paper 6;paper 7;paper 8;"), -2056);
         due(x.count(0), 0);
         due(tells(x, "paper 1;paper 2;paper 3;paper 4;paper 5;paper 6;paper 7;"), 7);
