@@ -871,13 +871,23 @@ public final class EdgesOfValuesTest {
         likelihood(y, 0, 1, 20, 1, 20);
         likelihood(y, 0, 0, 20, 1, 400);
         likelihood(y, 2, 2, 2, 1, 2);
-        // Least terms: 14 by 16 and the like.
+        // A RULE that is not broken moves nothing.
         LatticeGrader z = Edges.with(80, 20, 10, 60);
         z.rule(0, 1);
         z.rule(2, 3);
         likelihood(z, 0, 0, 10, 1, 10);
         likelihood(z, 0, 2, 10, 1, 1);
-        Edges.due(z.likely(0, 0, 2, 0) * 2, z.likely(0, 0, 2, 1));
+        // One pulls 50 up as much as the other one pulls it down: with both or with none it stays; in least terms.
+        LatticeGrader both = Edges.with(50, 20, 80);
+        both.rule(0, 1);
+        both.rule(2, 0);
+        for (int loss = 0; loss <= 2; loss += 2) {
+            likelihood(both, loss, 0, 2, 1, 2);
+            likelihood(both, loss, 0, 3, 5, 9);
+            likelihood(both, loss, 0, 4, 5, 8);
+            likelihood(both, loss, 0, 19, 325, 361);
+            likelihood(both, loss, 0, 20, 181, 200);
+        }
     }
 
     private static long power(long t, int times) {
