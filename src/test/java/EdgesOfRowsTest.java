@@ -7,6 +7,7 @@ public final class EdgesOfRowsTest {
         whatIsOfNone();
         whatIsByKinds();
         whatIsByFigures();
+        whatIsOfOthers();
         draws();
         lots();
         lotsOfPools();
@@ -152,6 +153,23 @@ public final class EdgesOfRowsTest {
         whatIs(x, 1 + 32, 1023);
         told(x, 3, 13);
         whatIs(x, 2 + 16, 0);
+    }
+
+    private static void whatIsOfOthers() {
+        Edges.sentence("WHAT KIND of a PAPER: of each its own");
+        LatticeGrader x = Edges.with(1, 2, 3, 4, 5, 6, 7);
+        for (int p = 0; p < 7; p++) {
+            x.kind(p, p % 6, p + 1);
+        }
+        for (int p = 0; p < 7; p++) {
+            // As CURVED or BONUS, with the FIGURE of this PAPER alone.
+            told(x, p + 1, p + 11);
+            for (int q = 0; q < 7; q++) {
+                int figures = q % 6 == 1 || q % 6 == 4 ? 1 << p + 1 : 0;
+                Edges.due("kinds of " + q, x.whatIs(q, 0), p == q ? 2 + 16 : 0);
+                Edges.due("figures of " + q, x.whatIs(q, 1), figures);
+            }
+        }
     }
 
     // ---- lots

@@ -937,6 +937,17 @@ public final class EdgesOfValuesTest {
             // By ABSOLUTE the sixth alone does not, but with any other one.
             likelihood(y, loss, 6, 7, loss == 1 ? 1 : 0, loss == 1 ? 16807 : 1);
         }
+        Edges.sentence("RULES 0 .. 4 (as many as there are), though there are fewer PAPERS");
+        LatticeGrader four = Edges.with(1, 20, 30, 5);
+        four.rule(0, 1);
+        four.rule(0, 2);
+        four.rule(1, 2);
+        four.rule(0, 3);
+        four.rule(2, 3);
+        for (int loss = 0; loss <= 2; loss++) {
+            likelihood(four, loss, 2, 20, 1, 20);
+            likelihood(four, loss, 0, 20, 1, 1);
+        }
         // All 12 there: of 11 the later ones.
         LatticeGrader full = Edges.made(Edges::full);
         likelihood(full, 0, 2, 20, 0, 1);
