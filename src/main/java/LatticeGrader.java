@@ -35,6 +35,7 @@ public final class LatticeGrader {
     private static final int NO_PLACE = -13;
     private static final int NO_SIZE = -14;
     private static final long REFUSED_LONG = 4000000000000000000L;
+    private static final int ALL_BUT_SIGN = 0x7fffffff;
 
     private final Sheet now = new Sheet();
     private final Sheet kept = new Sheet();
@@ -640,7 +641,7 @@ public final class LatticeGrader {
         for (int lot = 0; lot < n; lot++) {
             for (int p = 0; p < spare.paperCount(); p++) {
                 seed = seed * 1664525 + 1013904223;
-                spare.setRaw(p, (seed & Integer.MAX_VALUE) / 256 % 100);
+                spare.setRaw(p, (seed & ALL_BUT_SIGN) / 256 % 100);
             }
             all += what == 0 ? pairsIn(spare) : byRules.work(spare, SQUARE, 0).pooledPapers(spare);
         }
@@ -1182,10 +1183,11 @@ public final class LatticeGrader {
 
         int middleOf(int bits) {
             int all = weightOf(bits);
-            int middle = Integer.MAX_VALUE;
+            int middle = -1;
             for (int p = 0; p < papers; p++) {
                 int mark = marks.get(p);
-                if (hasBit(bits, p) && mark < middle && 2 * weightOf(bits & papersUpTo(mark)) >= all) {
+                boolean isLeast = middle < 0 || mark < middle;
+                if (hasBit(bits, p) && isLeast && 2 * weightOf(bits & papersUpTo(mark)) >= all) {
                     middle = mark;
                 }
             }
